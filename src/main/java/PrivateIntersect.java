@@ -2,13 +2,14 @@
 public final class PrivateIntersect {
     private static final int PARTIES = 3;
     private static final int ITEMS = 64;
+    private static final int WEIGHTS = PARTIES * ITEMS;
     private static final int MOST_HELD = 16;
     private static final int LEAST_SPEC = ITEMS;
     private static final int GREATEST_SPEC = ITEMS * MOST_HELD + ITEMS - 1;
 
     // There are just as many items as a long has bits: bit i of a set stands for item i.
     private final long[] sets = new long[PARTIES];
-    private final int[] weights = new int[PARTIES * ITEMS];
+    private final int[] weights = new int[WEIGHTS];
     // Kept, as the document gives every party one, but read nowhere: no answer may depend on them.
     private final int[] secrets = new int[PARTIES];
     private int lastExchange = 0;
@@ -191,7 +192,7 @@ public final class PrivateIntersect {
     }
 
     private static boolean contains(long set, int item) {
-        return (set >>> item & 1L) != 0L;
+        return ((set >>> item) & 1L) != 0L;
     }
 
     private static int sizeOf(long set) {
@@ -222,7 +223,7 @@ public final class PrivateIntersect {
     private static long steppedSet(int first, int count, int step) {
         long set = 0L;
         for (int n = 0; n < count; n++) {
-            set |= 1L << (first + n * step) % ITEMS;
+            set |= 1L << ((first + n * step) % ITEMS);
         }
         return set;
     }

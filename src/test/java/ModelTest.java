@@ -10,7 +10,8 @@ import java.util.TreeSet;
 public final class ModelTest {
     private static final int RUNS = 2000;
     private static final int CALLS = 512;
-    private static final int[] ODD_NUMBERS = {-1, 3, 16, 63, 64, 1087, 1088, Integer.MIN_VALUE, Integer.MAX_VALUE};
+    private static final int[] ODD_NUMBERS = {
+        -1, 0, 3, 4, 16, 63, 64, 1087, 1088, Integer.MIN_VALUE, Integer.MAX_VALUE};
 
     private static long seed = 20261115L;
 

@@ -176,6 +176,7 @@ public final class PromisesTest {
         due("4: least spec", x.giveMany(2, 64, 63), 1);
         due("4: last first of count 1", x.giveMany(2, 127, 63), 2);
         due("4: holds(2, 63)", x.holds(2, 63), 1);
+        due("4: commonWeight(2, 2)", x.commonWeight(2, 2), 2);
     }
 
     private static void promise4GiveManyKeepsWeights() {
@@ -400,6 +401,11 @@ public final class PromisesTest {
             x.give(party, 0, 5);
         }
         due("13: itemOfAll(0) is item 0", x.itemOfAll(0), 0);
+        for (int party = 0; party < 3; party++) {
+            x.take(party, 0);
+            due("13: itemOfAll(0) when party " + party + " lacks item 0", x.itemOfAll(0), 20);
+            x.give(party, 0, 5);
+        }
         x.clear(2);
         due("13: itemOfAll(0) with none", x.itemOfAll(0), -1);
     }
