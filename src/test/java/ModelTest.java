@@ -5,13 +5,31 @@ import java.util.TreeSet;
 
 /**
  * Runs of 512 calls, each answer compared with that of a model on the Java library, and with that
- * of a second object that gets the same calls but other secrets.
+ * of a second object that gets the same calls but other secrets; and every method with every edge
+ * in each place of its arguments, in states from empty to full.
  */
 public final class ModelTest {
     private static final int RUNS = 2000;
     private static final int CALLS = 512;
     private static final int[] ODD_NUMBERS = {
         -1, 0, 3, 4, 16, 63, 64, 1087, 1088, Integer.MIN_VALUE, Integer.MAX_VALUE};
+
+    private static final int[] EDGES = {
+        Integer.MIN_VALUE, Integer.MIN_VALUE + 1, -65, -64, -63, -2, -1, 0, 1, 2, 3, 4, 7, 8, 15, 16, 17, 31, 32, 33,
+        47, 48, 62, 63, 64, 65, 127, 128, 191, 192, 959, 960, 1023, 1024, 1025, 1087, 1088, 1089, 65536,
+        Integer.MAX_VALUE - 1, Integer.MAX_VALUE};
+    private static final int[] PARTY_EDGES = {Integer.MIN_VALUE, -1, 0, 1, 2, 3, Integer.MAX_VALUE};
+    private static final int[] NO_ARGUMENT = {0};
+    // How many arguments the methods take, in the order of the numbers in ask.
+    private static final int[] TAKES = {2, 3, 3, 2, 1, 1, 2, 2, 3, 2, 2, 0, 0, 1, 1, 0, 1};
+
+    // Calls that lead to a state: a method's number and its arguments.
+    private static final int[][][] STATES = {
+        {},
+        {{1, 0, 0, 9}, {1, 0, 63, -4}, {1, 1, 63, 8}, {1, 2, 63, 7}, {1, 2, 31, Integer.MAX_VALUE}, {7, 0, 1, 0}},
+        {{2, 0, 960, 1}, {2, 1, 960 + 49, 1}, {2, 2, 960 + 63, 63}, {1, 0, 3, 50}, {10, 1, 2, 0}},
+        {{2, 0, 1024, 1}, {2, 1, 1024 + 8, 1}, {2, 2, 1024 + 48, 1}, {1, 2, 63, Integer.MIN_VALUE}, {9, 0, 2, 0}},
+        {{2, 0, 1024, 4}, {2, 1, 1024, 4}, {2, 2, 1024, 4}, {8, 2, 0, 0}}};
 
     private static long seed = 20261115L;
 
@@ -26,7 +44,64 @@ public final class ModelTest {
                 System.exit(1);
             }
         }
+        for (int[][] state : STATES) {
+            for (int method = 0; method < TAKES.length; method++) {
+                if (!agreesAtTheEdges(state, method)) {
+                    System.exit(1);
+                }
+            }
+        }
         System.out.println("all answers are as due");
+    }
+
+    private static boolean agreesAtTheEdges(int[][] state, int method) {
+        // Those that ask for an item or for a number of parties first need more than the edges of a party.
+        int[] firsts = TAKES[method] == 0 ? NO_ARGUMENT : method == 13 || method == 16 ? EDGES : PARTY_EDGES;
+        for (int first : firsts) {
+            for (int second : TAKES[method] < 2 ? NO_ARGUMENT : EDGES) {
+                for (int third : TAKES[method] < 3 ? NO_ARGUMENT : EDGES) {
+                    if (!agreesAfter(state, method, new int[] {first, second, third})) {
+                        return false;
+                    }
+                }
+            }
+        }
+        return true;
+    }
+
+    private static boolean agreesAfter(int[][] state, int method, int[] a) {
+        ModelTest model = new ModelTest();
+        PrivateIntersect x = new PrivateIntersect(1, 2, 3);
+        for (int[] call : state) {
+            int[] b = {call[1], call[2], call[3]};
+            model.answer(call[0], b);
+            ask(x, call[0], b);
+        }
+        int want = model.answer(method, a);
+        int got = ask(x, method, a);
+        if (got != want || !model.looksLike(x)) {
+            System.out.println("in a state of " + state.length + " calls: method " + method + " of (" + a[0] + ", "
+                + a[1] + ", " + a[2] + ") answered " + got + ", due is " + want
+                + (got == want ? ", but the state is not as due" : ""));
+            return false;
+        }
+        return true;
+    }
+
+    /** Asks nothing that would change what traffic answers. */
+    private boolean looksLike(PrivateIntersect x) {
+        boolean like = x.traffic() == sent;
+        for (int party = 0; party < 3; party++) {
+            int i = 0;
+            int weight = 0;
+            for (int item : parties.get(party).keySet()) {
+                like &= x.commonItem(party, party, i) == item;
+                weight += parties.get(party).get(item);
+                i++;
+            }
+            like &= x.held(party) == i && x.commonWeight(party, party) == weight;
+        }
+        return like;
     }
 
     /** The numbers must be the same in every run of the test, so they come from a fixed seed. */
