@@ -4,8 +4,8 @@ import java.util.List;
 import java.util.Set;
 
 /**
- * One test of its own for each sentence of ../shared/DOC.md that names a boundary case. The list in
- * main quotes the sentences in the document's order and says which test belongs to which.
+ * One test of its own for each sentence of ../shared/DOC.md that names a boundary case. The lists
+ * below main quote the sentences in the document's order, each with the test that belongs to it.
  *
  * <p>A run is told as text, a call in each line with the answer that is due: "give 0 63 MAX = 1".
  */
@@ -635,7 +635,8 @@ public final class BoundaryTest {
             refused(text + " = -1", BAD_PARTIES);
         }
         for (int good = 0; good <= 2; good++) {
-            due("commonWeight of the party " + good + " is not 0", call(run(SOME), "commonWeight " + good + " 2") != 0, true);
+            int answer = call(run(SOME, "give 2 63 5 = 3"), "commonWeight " + good + " 2");
+            due("commonWeight of the party " + good + " is not 0", answer != 0, true);
         }
         refused("commonWeight ? 2 = 0", BAD_PARTIES);
         refused("commonWeight 2 ? = 0", BAD_PARTIES);
@@ -1035,13 +1036,14 @@ public final class BoundaryTest {
 
     private static void takeFromSixteenToNone() {
         for (int party = 0; party < 3; party++) {
-            PrivateIntersect x = run(ALIKE);
+            PrivateIntersect x = run(ALIKE, "common 0 1 = 16");
             for (int left = 15; left >= 0; left--) {
                 row(x, "take " + party + " " + 4 * left + " = " + left);
                 row(x, "held " + party + " = " + left);
             }
             row(x, "take " + party + " 0 = -3");
             row(x, "any = 16");
+            row(x, "traffic = 16");
         }
     }
 
@@ -1394,7 +1396,8 @@ public final class BoundaryTest {
                 run(ALIKE, there + "1");
                 run(APART, there + (p == q ? 1 : 0));
                 if (p != q) {
-                    run(ALIKE, "clear " + p + " = 16", there + "1", back + "0", "clear " + q + " = 16", there + "1", back + "1");
+                    run(ALIKE, "clear " + p + " = 16", there + "1", back + "0",
+                        "clear " + q + " = 16", there + "1", back + "1");
                     run(ALIKE, "take " + p + " 0 = 15", there + "1", back + "0", "take " + q + " 60 = 15", there + "0",
                         back + "0", "take " + p + " 60 = 14", there + "1", back + "0", "take " + q + " 0 = 14", back + "1");
                     run("give " + p + " 63 1 = 1", there + "0", "give " + q + " 63 2 = 1", there + "1",
